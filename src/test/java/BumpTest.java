@@ -1,8 +1,7 @@
-/** Promise 2: adding one with bump. */
+/** Promise 2, broadly: bump at every number, and over every kind of invalid cell. */
 public final class BumpTest {
     public static void main(String[] args) {
         everyNumberInTurn();
-        edges();
         anyInvalidCellStopsIt();
         everyInvalidCodeStopsIt();
         goesOnAfterRepair();
@@ -30,28 +29,6 @@ public final class BumpTest {
             return 2;
         }
         return number % 1000 != 999 ? 3 : 4;
-    }
-
-    private static void edges() {
-        edge(0, 1, 1);
-        edge(4, 1, 5);
-        edge(9, 2, 10);
-        edge(49, 2, 50);
-        edge(99, 3, 100);
-        edge(499, 3, 500);
-        edge(999, 4, 1000);
-        edge(4999, 4, 5000);
-        edge(9990, 1, 9991);
-        edge(9989, 2, 9990);
-        edge(9899, 3, 9900);
-        edge(8999, 4, 9000);
-        edge(9999, 4, 0);
-    }
-
-    private static void edge(int before, int answer, int after) {
-        BiQuinary x = Check.holding(Check.codesOf(before));
-        Check.due("bump() at struck " + before, x.bump(), answer);
-        Check.dueCells("after bump() at struck " + before, x, Check.codesOf(after));
     }
 
     /** Every set of invalid cells, over numbers whose carry ends below, at and above them. */
@@ -85,10 +62,10 @@ public final class BumpTest {
 
     private static void dueStopped(int[] codes) {
         BiQuinary x = Check.holding(codes);
-        String cells = java.util.Arrays.toString(codes);
-        Check.due("bump() over cells " + cells, x.bump(), 0);
-        Check.dueCells("after bump() over cells " + cells, x, codes);
-        Check.due("second bump() over cells " + cells, x.bump(), 0);
+        String cells = Check.text(codes);
+        Check.due("bump() over " + cells, x.bump(), 0);
+        Check.dueCells("after bump() over " + cells, x, codes);
+        Check.due("second bump() over " + cells, x.bump(), 0);
     }
 
     private static void goesOnAfterRepair() {

@@ -5,8 +5,37 @@ final class Check {
 
     private static final int SHOWN = 20;
     private static int wrong = 0;
+    private static int shown = 0;
+    private static int sentences = 0;
+    private static String sentence = "";
+
+    private static final long PATIENCE_MILLIS = 60_000;
+
+    /** A call that never returns must fail its test, not stop the whole run. */
+    static {
+        Thread watch = new Thread(Check::endIfStillRunning);
+        watch.setDaemon(true);
+        watch.start();
+    }
 
     private Check() {
+    }
+
+    private static void endIfStillRunning() {
+        try {
+            Thread.sleep(PATIENCE_MILLIS);
+        } catch (InterruptedException e) {
+            return;
+        }
+        System.out.println(sentence + "a call has not returned");
+        Runtime.getRuntime().halt(1);
+    }
+
+    /** Names the sentence of the document that the answers from here on belong to. */
+    static void sentence(String text) {
+        sentences++;
+        sentence = "\"" + text + "\": ";
+        shown = 0;
     }
 
     static void due(String call, long got, long want) {
@@ -14,13 +43,15 @@ final class Check {
             return;
         }
         wrong++;
-        if (wrong <= SHOWN) {
-            System.out.println(call + " answered " + got + ", due is " + want);
+        shown++;
+        if (shown <= SHOWN) {
+            System.out.println(sentence + call + " answered " + got + ", due is " + want);
         }
     }
 
     static void end() {
-        System.out.println(wrong == 0 ? "all answers are as due" : wrong + " answers are not as due");
+        String count = sentences == 0 ? "" : sentences + " sentences: ";
+        System.out.println(count + (wrong == 0 ? "all answers are as due" : wrong + " answers are not as due"));
         if (wrong != 0) {
             System.exit(1);
         }
@@ -67,7 +98,22 @@ final class Check {
         return x;
     }
 
+    /** The four cells of a number, cell 0 first. */
     static int[] codesOf(int number) {
         return new int[] {CODES[number % 10], CODES[number / 10 % 10], CODES[number / 100 % 10], CODES[number / 1000]};
+    }
+
+    static int[] with(int[] codes, int cell, int code) {
+        int[] changed = codes.clone();
+        changed[cell] = code;
+        return changed;
+    }
+
+    static String text(int[] codes) {
+        StringBuilder text = new StringBuilder("cells");
+        for (int code : codes) {
+            text.append(String.format(" 0x%02x", code));
+        }
+        return text.toString();
     }
 }

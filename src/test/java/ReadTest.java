@@ -1,4 +1,4 @@
-/** Promises 4 and 5: reading the number with value, and finding an invalid cell with faulty. */
+/** Promises 4 and 5, broadly: every number, every code in every cell, every set of invalid cells. */
 public final class ReadTest {
     public static void main(String[] args) {
         everyNumber();
@@ -41,11 +41,11 @@ public final class ReadTest {
     /** Each is asked twice, and the cells are read after, since neither may change anything. */
     private static void dueRead(int[] codes, int value, int faulty) {
         BiQuinary x = Check.holding(codes);
-        String cells = java.util.Arrays.toString(codes);
+        String cells = Check.text(codes);
         for (int time = 0; time < 2; time++) {
-            Check.due("value() over cells " + cells, x.value(), value);
+            Check.due("value() over " + cells, x.value(), value);
             Check.dueCells("after value()", x, codes);
-            Check.due("faulty() over cells " + cells, x.faulty(), faulty);
+            Check.due("faulty() over " + cells, x.faulty(), faulty);
             Check.dueCells("after faulty()", x, codes);
         }
     }

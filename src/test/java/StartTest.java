@@ -1,4 +1,4 @@
-/** Promise 1: the constructor and the start. */
+/** Promise 1, broadly: every first strike, and objects that share nothing. */
 public final class StartTest {
     public static void main(String[] args) {
         Check.due("value() at the start", new BiQuinary().value(), 0);

@@ -1,4 +1,4 @@
-/** Promise 3: flipping one bit with strike. */
+/** Promise 3, broadly: every flip of every code, and many arguments out of range. */
 public final class StrikeTest {
     // 32, 39, 256 and their like would pass for small values if a shift or a byte wrapped them.
     private static final int[] BAD_CELLS = {Integer.MIN_VALUE, -256, -4, -1, 4, 5, 7, 8, 32, 256, 1 << 30, Integer.MAX_VALUE};
@@ -8,8 +8,6 @@ public final class StrikeTest {
         everyFlipOfEveryCode();
         outOfRangeChangesNothing(Check.codesOf(9470));
         outOfRangeChangesNothing(new int[] {0x00, 0x7f, 0x61, 0x03});
-        documentsExample();
-        emptyCell();
         Check.end();
     }
 
@@ -59,23 +57,5 @@ public final class StrikeTest {
         String call = "strike(" + cell + ", " + bit + ")";
         Check.due(call, x.strike(cell, bit), answer);
         Check.dueCells("after " + call, x, codes);
-    }
-
-    private static void documentsExample() {
-        BiQuinary x = new BiQuinary();
-        Check.due("strike(0, 5)", x.strike(0, 5), 1);
-        Check.due("faulty() with cell 0 invalid", x.faulty(), 0);
-        Check.due("strike(0, 6)", x.strike(0, 6), 65);
-        Check.due("faulty() with cell 0 valid again", x.faulty(), -1);
-        Check.due("value() with cell 0 at five", x.value(), 5);
-        Check.due("bump() with cell 0 at five", x.bump(), 1);
-        Check.due("value() with cell 0 at six", x.value(), 6);
-    }
-
-    private static void emptyCell() {
-        BiQuinary x = new BiQuinary();
-        Check.due("strike(2, 0)", x.strike(2, 0), 0x20);
-        Check.due("strike(2, 5)", x.strike(2, 5), 0);
-        Check.due("faulty() with cell 2 empty", x.faulty(), 2);
     }
 }
